@@ -261,6 +261,7 @@ public final class ThinVolumes {
         if (!now.pool.isUsedBlock(block) || count < 1 || count > COUNTS) return false;
         begin();
         now.pool.count[block] = count;
+        now.spoilt = true;
         keepStep();
         return true;
     }
@@ -268,6 +269,7 @@ public final class ThinVolumes {
     public int mend() {
         begin();
         int mended = now.mendCounts(scratch);
+        now.spoilt = false;
         keepStep();
         return mended;
     }
@@ -363,7 +365,7 @@ public final class ThinVolumes {
         if (!now.pool.isUsedBlock(block)) return NONE;
         int owners = 0;
         for (int volume = 0; volume < VOLUMES; volume++) {
-            if (now.pool.timesUnder(now.trunk[volume], block, TRUNK_LEVEL) > 0) owners++;
+            if (now.pool.isUnder(now.trunk[volume], TRUNK, block)) owners++;
         }
         return owners;
     }
@@ -425,10 +427,8 @@ public final class ThinVolumes {
 
     public int find(int value) {
         for (int volume = 0; volume < VOLUMES; volume++) {
-            if (!now.isThere(volume)) continue;
-            for (int address = 0; address < now.size[volume]; address++) {
-                if (now.hasValue(volume, address, value)) return ADDRESSES * volume + address;
-            }
+            int address = now.firstWith(volume, 0, value);
+            if (address != NONE) return ADDRESSES * volume + address;
         }
         return NONE;
     }
@@ -436,8 +436,10 @@ public final class ThinVolumes {
     public int times(int volume, int value) {
         if (!now.isThere(volume) || !isValue(value)) return NONE;
         int times = 0;
-        for (int address = 0; address < now.size[volume]; address++) {
-            if (now.hasValue(volume, address, value)) times++;
+        int address = now.firstWith(volume, 0, value);
+        for (int i = 0; i < ADDRESSES && address != NONE; i++) {
+            times++;
+            address = now.firstWith(volume, address + 1, value);
         }
         return times;
     }
@@ -462,7 +464,7 @@ public final class ThinVolumes {
     public int parts(int volume, int what) {
         if (!now.isThere(volume) || what < LEAF || what > TRUNK) return NONE;
         Arrays.fill(scratch, 0);
-        now.pool.markUnder(now.trunk[volume], scratch, TRUNK_LEVEL);
+        now.pool.markUnder(now.trunk[volume], TRUNK, scratch);
         int parts = 0;
         for (int thing = BLOCKS; thing < THINGS; thing++) {
             if (scratch[thing] != 0 && now.pool.kindOf(thing) == what) parts++;
@@ -511,10 +513,7 @@ public final class ThinVolumes {
 
     public int next(int volume, int address) {
         if (!isInside(volume, address)) return NONE;
-        for (int a = address; a < now.size[volume]; a++) {
-            if (now.blockAt(volume, a) != NONE) return a;
-        }
-        return NONE;
+        return now.firstMapped(volume, address, now.size[volume]);
     }
 
     public int needs(int volume, int address, int value, int what) {
@@ -617,8 +616,9 @@ public final class ThinVolumes {
                 && address + n <= now.size[volume];
     }
 
+    /** Only a hand spoils a count, so nothing need be counted before one did. */
     private boolean isSound() {
-        return now.firstWrong(scratch) == NONE;
+        return !now.spoilt || now.firstWrong(scratch) == NONE;
     }
 
     /** Whether anything may be done to a volume by hand, but to take it, let it go, hold it. */
@@ -861,21 +861,32 @@ public final class ThinVolumes {
             return found;
         }
 
-        /** At how many ends below a thing a block is; of any block, if it is NONE. */
-        private int timesUnder(int thing, int block, int level) {
-            if (level < BLOCK_LEVEL || !isThing(thing)) return 0;
-            if (!isPart(thing)) return block == NONE || block == thing ? 1 : 0;
+        /** How many addresses are mapped below a part of that kind. */
+        private int mappedUnder(int part, int itsKind) {
+            if (part == NONE) return 0;
+            if (itsKind <= LEAF) return filledPlaces(part);
             int found = 0;
-            for (int place = 0; place < PLACES; place++) {
-                found += timesUnder(at(thing, place), block, level - 1);
-            }
+            for (int place = 0; place < PLACES; place++) found += mappedUnder(at(part, place), itsKind - 1);
             return found;
         }
 
-        private void markUnder(int thing, int[] marks, int level) {
-            if (level < BLOCK_LEVEL || !isThing(thing) || thing >= marks.length) return;
-            marks[thing] = 1;
-            for (int place = 0; place < PLACES; place++) markUnder(at(thing, place), marks, level - 1);
+        /** Whether a block is somewhere below a part of that kind. */
+        private boolean isUnder(int part, int itsKind, int block) {
+            if (part == NONE) return false;
+            if (itsKind <= LEAF) return timesIn(part, block) > 0;
+            for (int place = 0; place < PLACES; place++) {
+                if (isUnder(at(part, place), itsKind - 1, block)) return true;
+            }
+            return false;
+        }
+
+        /** Marks a part of that kind and all parts below it. */
+        private void markUnder(int part, int itsKind, int[] marks) {
+            if (itsKind < LEAF || !isPart(part) || part >= marks.length) return;
+            marks[part] = 1;
+            for (int place = 0; place < PLACES && itsKind > LEAF; place++) {
+                markUnder(at(part, place), itsKind - 1, marks);
+            }
         }
 
         void joinLikeBlocks() {
@@ -977,6 +988,8 @@ public final class ThinVolumes {
         final int[] born = new int[VOLUMES];
         int like;
         int made;
+        /** A count was told by hand since all were mended. */
+        boolean spoilt;
 
         State() {
             Arrays.fill(trunk, NONE);
@@ -995,6 +1008,7 @@ public final class ThinVolumes {
             System.arraycopy(other.born, 0, born, 0, VOLUMES);
             like = other.like;
             made = other.made;
+            spoilt = other.spoilt;
         }
 
         boolean isThere(int volume) {
@@ -1067,13 +1081,31 @@ public final class ThinVolumes {
             return pool.valueOf(blockAt(volume, address));
         }
 
-        boolean hasValue(int volume, int address, int value) {
-            int block = blockAt(volume, address);
-            return block != NONE && pool.valueOf(block) == value;
+        /** The first address that is mapped from one on, below an end; what an absent part spans is passed over. */
+        int firstMapped(int volume, int from, int end) {
+            int address = from;
+            while (address < end) {
+                int twig = thingAt(volume, address, TRUNK);
+                int leaf = pool.at(twig, placeOf(address, TWIG));
+                if (pool.at(leaf, placeOf(address, LEAF)) != NONE) return address;
+                address = twig == NONE ? (address | 63) + 1 : leaf == NONE ? (address | 7) + 1 : address + 1;
+            }
+            return NONE;
+        }
+
+        /** The first address from one on that is mapped with a value. */
+        int firstWith(int volume, int from, int value) {
+            if (!isThere(volume)) return NONE;
+            int address = firstMapped(volume, from, size[volume]);
+            for (int i = 0; i < ADDRESSES && address != NONE; i++) {
+                if (valueAt(volume, address) == value) return address;
+                address = firstMapped(volume, address + 1, size[volume]);
+            }
+            return NONE;
         }
 
         int usedOf(int volume) {
-            return isThere(volume) ? pool.timesUnder(trunk[volume], NONE, TRUNK_LEVEL) : 0;
+            return isThere(volume) ? pool.mappedUnder(trunk[volume], TRUNK) : 0;
         }
 
         int mappedInAll() {
@@ -1092,10 +1124,13 @@ public final class ThinVolumes {
 
         /** Whether no quota is passed and what is reserved is free. */
         boolean isAllowed() {
+            int held = 0;
             for (int volume = 0; volume < VOLUMES; volume++) {
-                if (isThere(volume) && usedOf(volume) > quota[volume]) return false;
+                int used = usedOf(volume);
+                if (isThere(volume) && used > quota[volume]) return false;
+                if (isThere(volume)) held += Math.max(reserve[volume] - used, 0);
             }
-            return BLOCKS - pool.usedBlocks() >= heldFree();
+            return BLOCKS - pool.usedBlocks() >= held;
         }
 
         /** Opens an address down to a kind of part: that part, or NONE if there are no more parts. */
@@ -1179,10 +1214,7 @@ public final class ThinVolumes {
             int part = openTo(volume, address, kind);
             if (part == NONE) return false;
             pool.hang(part, placeOf(address, kind), thing);
-            for (int past = size[volume]; past < ADDRESSES; past++) {
-                if (blockAt(volume, past) != NONE) return false;
-            }
-            return true;
+            return firstMapped(volume, size[volume], ADDRESSES) == NONE;
         }
 
         boolean takeIn(int volume, Rows rows) {
