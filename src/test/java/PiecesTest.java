@@ -29,6 +29,15 @@ public final class PiecesTest {
         check.due("COUNT", x.ofBlock(0, 1), 2);
         check.due("BLOCKS", x.is(1), 2);
         check.due("what was there is free", x.find(4), -1);
+        check.yes("one alone", x.share(0, 9, 1, 19, 1));
+        check.due("the one behind it stays", x.block(1, 20), 0);
+        check.yes("one alone", x.share(0, 12, 1, 22, 1));
+        check.due("the one ahead stays", x.block(1, 20), 0);
+        check.yes("n and no more", x.write(0, 13, 8) && x.share(0, 11, 1, 40, 2));
+        check.due("the last of them", x.block(1, 41), 1);
+        check.due("none behind them", x.block(1, 42), -1);
+        x.undo();
+        x.undo();
         check.yes("once more", x.share(0, 10, 1, 20, 3));
         check.due("COUNT stays", x.ofBlock(0, 1), 2);
         check.yes("to the ends", x.share(0, 36, 1, 36, 64));
@@ -279,6 +288,39 @@ public final class PiecesTest {
         check.due("wrong", x.wrong(), -1);
     }
 
+    /** Nothing is done if a piece needs more parts than are free. */
+    private static void noParts() {
+        ThinVolumes x = two(512);
+        x.like(1);
+        for (int a = 0; a < 512; a += 8) x.write(0, a, 1);
+        for (int a = 0; a < 512; a += 8) x.write(1, a, 1);
+        x.make(512, 512);
+        for (int a : new int[] {8, 16, 24, 32, 40, 64, 72, 80}) x.write(2, a, 1);
+        x.make(512, 512);
+        x.send(3, 1);
+        check.due("PARTS", x.is(2), 157);
+        String ahead = Look.at(x);
+        check.no("share", x.share(0, 0, 3, 0, 9));
+        check.no("graft, for whose LEAF none is free", x.write(3, 0, 1) && x.graft(0, 64, 0, 3, 64, 0));
+        x.undo();
+        check.no("receive", x.receive(3));
+        x.stage(0, 1);
+        x.stage(8, 1);
+        check.no("commit", x.commit(3));
+        check.due("THE STAGE stays", x.is(11), 2);
+        check.no("fill", x.fill(3, 0, 9, 1));
+        check.same("nothing is done", Look.at(x), ahead);
+        check.yes("move", x.move(2, 8, 100, 64));
+        x.undo();
+        x.write(3, 0, 1);
+        ahead = Look.at(x);
+        check.no("move to where a TWIG is needed", x.move(2, 8, 128, 1));
+        check.no("graft of a LEAF", x.graft(0, 64, 1, 3, 64, 1));
+        check.yes("where there is one", x.graft(0, 64, 1, 3, 8, 1));
+        x.undo();
+        check.same("nothing is done", Look.at(x), ahead);
+    }
+
     /** Promise 18. */
     private static void swap() {
         ThinVolumes x = new ThinVolumes();
@@ -316,6 +358,7 @@ public final class PiecesTest {
         stage();
         move();
         moveOneByOne();
+        noParts();
         swap();
         check.end();
     }

@@ -78,6 +78,14 @@ public final class PoolTest {
         x.make(9, 9);
         x.fill(0, 0, 9, 3);
         check.due("kept once", x.is(1), 1);
+        ThinVolumes y = new ThinVolumes();
+        y.make(9, 9);
+        for (int a = 0; a < 3; a++) y.write(0, a, a);
+        y.wipe(0, 1);
+        y.wipe(0, 2);
+        y.like(1);
+        y.write(0, 5, 2);
+        check.due("a free one isn't like", y.block(0, 5), 1);
         check.yes("0", x.like(0));
         x.fill(0, 0, 9, 3);
         check.due("then each has its own but the last, whose BLOCK is alone then", x.is(1), 9);
@@ -93,7 +101,14 @@ public final class PoolTest {
         check.yes("as it is", x.spoil(0, 1));
         check.due("none is WRONG", x.wrong(), -1);
         check.due("is a STEP", x.steps(), 3);
+        check.yes("so all can be done yet", x.like(1));
+        x.undo();
         check.yes("999", x.spoil(2, 999));
+        check.no("now not", x.like(1));
+        check.yes("told right again", x.spoil(2, 1));
+        check.yes("now all can be", x.like(1));
+        x.undo();
+        x.undo();
         check.due("wrong", x.wrong(), 2);
         check.yes("while one is WRONG", x.spoil(1, 5));
         check.due("the first one", x.wrong(), 1);
@@ -154,6 +169,7 @@ public final class PoolTest {
         check.due("none is WRONG", x.wrong(), -1);
         check.due("back goes", x.back(), 2);
         check.due("it is WRONG again", x.wrong(), 1);
+        check.no("nothing is done again", x.write(0, 0, 1));
         check.due("mend goes", x.mend(), 1);
         check.yes("commit goes then", x.commit(0));
     }
@@ -254,21 +270,51 @@ public final class PoolTest {
             () -> x.receive(0), () -> x.move(0, 0, 40, 9), () -> x.swap(0, 1), () -> x.commit(0), () -> x.merge(),
             () -> x.fold(), () -> x.free(1), () -> x.like(1), () -> x.spoil(3, 3), () -> x.close(),
         };
-        String ahead = Look.at(x);
-        int steps = x.steps();
+        x.like(1);
+        x.like(0);
         for (int i = 0; i < deeds.length; i++) {
+            // Another state each time, so that one that was kept for an earlier deed shows.
+            x.write(0, 9, 100 + i);
+            String ahead = Look.at(x);
+            int steps = x.steps();
             deeds[i].run();
-            check.due("a STEP: " + i, x.steps(), steps + 1);
+            check.due("a STEP: " + i, x.steps(), Math.min(steps + 1, 16));
             check.no("changes something: " + i, i != 18 && Look.at(x).equals(ahead));
-            check.due("undo " + i, x.undo(), steps);
+            check.due("undo " + i, x.undo(), Math.min(steps, 15));
             check.same("undo " + i, Look.at(x), ahead);
         }
+        String ahead = Look.at(x);
         x.spoil(3, 3);
         String spoilt = Look.at(x);
         x.mend();
         check.same("mend", Look.at(x), ahead);
         x.undo();
         check.same("undo of mend", Look.at(x), spoilt);
+        check.no("nothing is done again", x.like(1));
+    }
+
+    /** Numbers that were let go and used again for others are as they were. */
+    private static void undoReuse() {
+        ThinVolumes x = new ThinVolumes();
+        x.make(100, 100);
+        x.write(0, 0, 1);
+        x.write(0, 64, 1);
+        x.take(0, true);
+        x.free(0);
+        x.make(200, 100);
+        x.take(0, false);
+        String ahead = Look.at(x);
+        x.free(1);
+        x.free(2);
+        check.due("VOLUME 1 again", x.make(5, 5), 1);
+        check.due("not READ ONLY", x.of(1, 2), 0);
+        check.due("VOLUME 2 again", x.make(512, 512), 2);
+        check.due("no PARENT", x.of(2, 8), -1);
+        x.write(2, 0, 3);
+        x.write(2, 8, 3);
+        check.due("what was a TWIG is a LEAF", x.ofPart(3, 0), 0);
+        for (int i = 0; i < 6; i++) x.undo();
+        check.same("undo", Look.at(x), ahead);
     }
 
     /** Promises 61, 62: an image holds all but the stream and the stage, the steps that can be taken back too. */
@@ -318,6 +364,7 @@ public final class PoolTest {
         close();
         undo();
         undoEach();
+        undoReuse();
         image();
         check.end();
     }

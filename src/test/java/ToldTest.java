@@ -72,13 +72,17 @@ public final class ToldTest {
         }
         check.due("a 0 that is MAPPED", x.block(1, 70), 3);
         check.due("next(0, 70)", x.next(0, 70), 70);
+        x.size(3, 512);
+        for (int a : new int[] {8, 128, 511}) x.write(3, a, 1);
+        int[][] nexts = {{0, 8}, {8, 8}, {9, 128}, {64, 128}, {127, 128}, {129, 511}, {500, 511}, {511, 511}};
+        for (int[] n : nexts) check.due("next(3, " + n[0] + ")", x.next(3, n[0]), n[1]);
         check.due("path trunk", x.path(2, 9, 0), 6);
         check.due("path twig", x.path(2, 9, 1), 7);
         check.due("path leaf", x.path(2, 9, 2), 3);
         check.due("path to where nothing is", x.path(2, 99, 0), 6);
         check.due("path to where nothing is", x.path(2, 99, 1), -1);
         check.due("path to where nothing is", x.path(2, 17, 2), -1);
-        check.due("path of an empty one", x.path(3, 0, 0), -1);
+        check.due("path where no TWIG is", x.path(3, 70, 1), -1);
         for (int i : new int[] {-1, 3}) check.due("path i " + i, x.path(2, 9, i), -1);
         check.due("path past SIZE", x.path(2, 100, 0), -1);
         for (int v : new int[] {-1, 4, 12}) {
@@ -115,6 +119,16 @@ public final class ToldTest {
         }
         int[][] places = {{0, 0, 1}, {0, 1, 4}, {1, 1, 3}, {2, 1, 1}, {8, 0, 4}, {7, 1, 3}, {2, 2, -1}, {2, -1, -1}, {2, 8, -1}};
         for (int[] p : places) check.due("place " + p[0] + " " + p[1], x.place(p[0], p[1]), p[2]);
+        x.write(2, 7, 5);
+        check.due("the last place", x.place(8, 7), 5);
+        check.due("none behind it", x.place(8, 8), -1);
+        check.due("none behind it, though the next PART has one", x.place(1, 8), -1);
+        check.due("none ahead of it, though the PART ahead has one", x.place(9, -1), -1);
+        x.take(2, true);
+        x.write(2, 70, 0);
+        check.due("PART 9", x.ofPart(9, 0), 2);
+        check.due("none ahead of it, though the PART ahead has one", x.place(9, -1), -1);
+        for (int i = 0; i < 3; i++) x.undo();
         int[] owners = {2, 3, 3, 2, 1};
         int[] leaves = {1, 2, 1, 1, 1};
         for (int b = 0; b < 5; b++) {
@@ -127,11 +141,19 @@ public final class ToldTest {
         check.due("counted(0)", x.counted(0), -1);
         check.due("counted(-1)", x.counted(-1), -1);
         check.due("hottest", x.hottest(), 1);
-        x.graft(0, 0, 0, 2, 1, 0);
+        x.graft(0, 0, 0, 2, 3, 0);
         check.due("of like ones the least", x.hottest(), 0);
         x.graft(0, 0, 0, 2, 2, 0);
+        check.due("hottest", x.hottest(), 0);
+        check.due("of none", new ThinVolumes().hottest(), -1);
         check.due("a LEAF with it twice is one", x.leaves(0), 2);
         check.due("places", x.ofBlock(0, 2), 3);
+        check.due("place of one that was never used", x.place(159, 0), -1);
+        for (int v = 0; v < 4; v++) x.free(v);
+        for (int p = 0; p < 10; p++) {
+            for (int place = 0; place < 8; place++) check.due("place of one that is free", x.place(p, place), -1);
+            for (int what = 0; what < 3; what++) check.due("ofPart of one that is free", x.ofPart(p, what), -1);
+        }
     }
 
     /** Promises 38 to 40. */
@@ -194,6 +216,7 @@ public final class ToldTest {
         ThinVolumes x = sample();
         check.due("find(10)", x.find(10), 0);
         check.due("find(12)", x.find(12), 1024);
+        check.due("find(11): just behind another", x.find(11), 1);
         check.due("find(0): one that is MAPPED", x.find(0), 70);
         for (int value : new int[] {13, -1, 1000000}) check.due("find " + value, x.find(value), -1);
         check.due("times(0, 10)", x.times(0, 10), 2);
@@ -342,6 +365,12 @@ public final class ToldTest {
         check.due("mean 0", y.mean(0), 0);
         check.due("saved 512", y.saved(), Float.floatToIntBits(512f));
         check.due("full", y.full(0), 1000);
+        ThinVolumes z = new ThinVolumes();
+        z.make(512, 512);
+        for (int value = 1; value < 1000000; value *= 2) {
+            z.write(0, 0, value);
+            check.due("mean " + value, z.mean(0), Double.doubleToLongBits(value));
+        }
         y.write(0, 5, 1);
         check.due("mean below 1", y.mean(0), Double.doubleToLongBits(1.0 / 512.0));
     }

@@ -218,6 +218,7 @@ public final class VolumesTest {
         check.yes("grown", x.size(0, 512));
         check.due("SIZE", x.of(0, 0), 512);
         check.due("all is there", x.of(0, 3), 3);
+        x.write(0, 511, 4);
         check.yes("cut", x.size(0, 50));
         check.due("USED", x.of(0, 3), 1);
         check.due("READ past it", x.read(0, 50), -1);
@@ -385,6 +386,13 @@ public final class VolumesTest {
         check.due("PARTS", x.is(2), 0);
         x.take(0, true);
         check.due("one that is READ ONLY", x.free(1), 0);
+        x.take(0, false);
+        x.reserve(1, 7);
+        x.write(1, 0, 3);
+        x.free(1);
+        x.make(9, 8);
+        int[] want = {9, 8, 0, 0, -1, 0, 0, 0, -1, 7, 0, 0};
+        for (int what = 0; what < 12; what++) check.due("its number used again " + what, x.of(1, what), want[what]);
     }
 
     public static void main(String[] args) {
