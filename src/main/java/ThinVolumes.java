@@ -434,7 +434,7 @@ public final class ThinVolumes {
     }
 
     public int times(int volume, int value) {
-        if (!now.isThere(volume) || !isValue(value)) return NONE;
+        if (!now.isThere(volume)) return NONE;
         int times = 0;
         int address = now.firstWith(volume, 0, value);
         for (int i = 0; i < ADDRESSES && address != NONE; i++) {

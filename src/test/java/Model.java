@@ -766,7 +766,7 @@ final class Model {
     }
 
     int times(int volume, int value) {
-        if (!s.vols.containsKey(volume) || value < 0 || value > 999999) return -1;
+        if (!s.vols.containsKey(volume)) return -1;
         int n = 0;
         for (int a = 0; a < 512; a++) if (blk(volume, a) != null && value(volume, a) == value) n++;
         return n;

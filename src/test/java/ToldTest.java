@@ -224,8 +224,9 @@ public final class ToldTest {
         check.due("times(0, 0): MAPPED alone", x.times(0, 0), 1);
         check.due("times(0, 13)", x.times(0, 13), 0);
         check.due("times(3, 0)", x.times(3, 0), 0);
-        check.due("times(0, -1): no VALUE", x.times(0, -1), -1);
-        check.due("times(0, 1000000): no VALUE", x.times(0, 1000000), -1);
+        check.due("times(0, -1): MAPPED with none such", x.times(0, -1), 0);
+        check.due("times(0, 1000000): MAPPED with none such", x.times(0, 1000000), 0);
+        check.due("times(3, -1): nothing MAPPED", x.times(3, -1), 0);
         int[][] parts = {{3, 2, 1}, {3, 2, 1}, {2, 1, 1}, {0, 0, 0}};
         for (int v = 0; v < 4; v++) {
             for (int what = 0; what < 3; what++) check.due("parts(" + v + ", " + what + ")", x.parts(v, what), parts[v][what]);
