@@ -1374,7 +1374,7 @@ public final class ThinVolumes {
 
         /** Keeps a state as the latest: one that is not needed any more, to be used again, for it. */
         State keep(State state) {
-            if (count < STEPS) {
+            if (count >= 0 && count < STEPS) {
                 State spare = states[count];
                 states[count] = state;
                 count++;
