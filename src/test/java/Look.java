@@ -3,7 +3,7 @@ final class Look {
     private Look() {
     }
 
-    static String at(ThinVolumes x) {
+    static String at(Tape x) {
         StringBuilder all = new StringBuilder();
         for (int what = 0; what <= 9; what++) all.append(x.is(what)).append(' ');
         for (int volume = 0; volume < 12; volume++) {
@@ -23,7 +23,7 @@ final class Look {
         return all.toString();
     }
 
-    static String rows(ThinVolumes x) {
+    static String rows(Tape x) {
         StringBuilder all = new StringBuilder();
         for (int i = 0; i < x.is(10); i++) all.append(x.stream(i, 0)).append('=').append(x.stream(i, 1)).append(' ');
         all.append('|');

@@ -22,16 +22,18 @@ public final class ModelTest {
         "run vik", "next va", "needs vaxk", "saved", "full v", "mean v", "digest v", "steps",
     };
 
-    private final Map<String, Method> real = methods(ThinVolumes.class);
+    private final Map<String, Method> real = methods(Tape.class);
     private final Map<String, Method> model = methods(Model.class);
     private final Check check = new Check("ModelTest");
     private final ArrayDeque<String> calls = new ArrayDeque<>();
     private final Map<String, int[]> done = new HashMap<>();
     private Random random;
-    private ThinVolumes x;
+    private Tape x;
     private Model y;
     private boolean sparse, wide, mischief, calm;
     private int lastVolume, graftKind;
+    /** How seldom an argument is odd: one of so many. */
+    private int seldomOdd;
     private int mostBlocks, mostParts;
 
     private static Map<String, Method> methods(Class<?> of) {
@@ -46,8 +48,10 @@ public final class ModelTest {
         return of[random.nextInt(of.length)];
     }
 
+    /** The last on this side of each bound of the document, the first beyond it, and the ends of an int. */
     private int odd() {
-        return some(-1, -2, 12, 97, 513, 1000000, Integer.MIN_VALUE, Integer.MAX_VALUE);
+        return some(-2, -1, 0, 1, 2, 3, 7, 8, 9, 10, 11, 12, 13, 15, 16, 17, 63, 64, 65, 95, 96, 97, 159, 160, 511, 512, 513,
+            999, 1000, 999999, 1000000, Integer.MIN_VALUE, Integer.MIN_VALUE + 1, Integer.MAX_VALUE - 1, Integer.MAX_VALUE);
     }
 
     private int address() {
@@ -64,7 +68,7 @@ public final class ModelTest {
     private Object argument(char kind) {
         if (kind == 't') return random.nextInt(3) > 0;
         if (kind == '-') return -1;
-        if (random.nextInt(60) == 0) return odd();
+        if (random.nextInt(seldomOdd) == 0) return odd();
         switch (kind) {
             case 'v': return lastVolume = random.nextInt(12) == 0 ? random.nextInt(13) : random.nextInt(Math.min(12, Math.max(1, y.is(0))));
             case 'a': return random.nextInt(5) > 2 ? address() : mapped();
@@ -161,13 +165,14 @@ public final class ModelTest {
 
     private void run(int run, int length) throws ReflectiveOperationException {
         random = new Random(run);
-        x = new ThinVolumes();
+        x = new Tape();
         y = new Model();
         calls.clear();
         sparse = run % 3 == 0;
         wide = run % 2 == 0;
         mischief = run % 5 == 0;
         calm = run % 4 > 0;
+        seldomOdd = run % 7 == 6 ? 3 : 60;
         crowd(run);
         for (int i = 0; i < length && !check.isWrong(); i++) {
             String deed = DEEDS[random.nextInt(DEEDS.length)];

@@ -57,6 +57,13 @@ final class NumberEdges {
         last.gives("find(0), one that is MAPPED", x -> x.find(0), 512 * 10 + 99);
         last.gives("find(9), the first of two VOLUMES", x -> x.find(9), 5);
 
+        Scene behind = scene(x -> {
+            Scenes.parts(x, 14);
+            x.write(0, 511, 2);
+        });
+        behind.gives("find(2), behind 511 that are MAPPED", x -> x.find(2), 511);
+        behind.gives("times(0, 2)", x -> x.times(0, 2), 1);
+
         edges.promise(44, "NONE: there is none.");
         for (int value : new int[] {Integer.MIN_VALUE, -1, 0, 4, 999999, 1000000, Integer.MAX_VALUE}) {
             plain.none("find(" + value + ")", x -> x.find(value));
@@ -337,10 +344,21 @@ final class NumberEdges {
             x.fill(0, 510, 2, 1);
         });
         last.gives("run(0, 0, 2), up to SIZE", x -> x.run(0, 0, 2), 2);
+        Scene round = scene(x -> {
+            x.make(512, 512);
+            x.write(0, 511, 1);
+            x.write(0, 0, 1);
+        });
+        round.gives("run(0, 1, 2), the next BLOCK is at 0, behind no ADDRESS", x -> x.run(0, 1, 2), 1);
+        round.gives("of(0, 11)", x -> x.of(0, 11), 2);
 
         edges.promise(54, "NONE: there is none, and for others.");
         for (int i : new int[] {Integer.MIN_VALUE, -2, -1, 2, 3, 512, Integer.MAX_VALUE}) {
-            plain.none("run(0, " + i + ", 0)", x -> x.run(0, i, 0));
+            for (int what = 0; what <= 2; what++) {
+                int asked = what;
+                plain.none("run(0, " + i + ", " + what + ")", x -> x.run(0, i, asked));
+                round.none("run(0, " + i + ", " + what + "), the last ADDRESS is MAPPED", x -> x.run(0, i, asked));
+            }
         }
         for (int what : NO_THIRDS) plain.none("run(0, 0, " + what + ")", x -> x.run(0, 0, what));
         for (int volume : Scenes.NO_VOLUMES) plain.none("run(" + volume + ", 0, 0)", x -> x.run(volume, 0, 0));

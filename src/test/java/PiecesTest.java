@@ -2,8 +2,8 @@
 public final class PiecesTest {
     private static final Check check = new Check("PiecesTest");
 
-    private static ThinVolumes two(int size) {
-        ThinVolumes x = new ThinVolumes();
+    private static Tape two(int size) {
+        Tape x = new Tape();
         x.make(size, 512);
         x.make(size, 512);
         return x;
@@ -11,7 +11,7 @@ public final class PiecesTest {
 
     /** Promise 9. */
     private static void share() {
-        ThinVolumes x = two(100);
+        Tape x = two(100);
         x.write(0, 10, 1);
         x.write(0, 12, 2);
         x.write(1, 21, 3);
@@ -54,7 +54,7 @@ public final class PiecesTest {
 
     /** Promise 10. */
     private static void graft() {
-        ThinVolumes x = two(100);
+        Tape x = two(100);
         x.fill(0, 8, 3, 5);
         x.write(0, 70, 6);
         String ahead = Look.at(x);
@@ -89,7 +89,7 @@ public final class PiecesTest {
 
     /** A graft that would map something from SIZE on, pass the QUOTA, or is done to one that is READ ONLY. */
     private static void graftCannot() {
-        ThinVolumes x = two(100);
+        Tape x = two(100);
         x.write(0, 7, 1);
         x.write(0, 40, 2);
         x.size(1, 36);
@@ -103,7 +103,7 @@ public final class PiecesTest {
         x.take(1, true);
         check.no("READ ONLY", x.graft(0, 7, 0, 2, 39, 0));
         check.yes("of one that is READ ONLY", x.graft(2, 39, 0, 0, 0, 0));
-        ThinVolumes y = two(512);
+        Tape y = two(512);
         y.write(0, 0, 1);
         y.take(0, false);
         check.yes("what is there already", y.graft(0, 0, 1, 2, 0, 1));
@@ -114,7 +114,7 @@ public final class PiecesTest {
 
     /** Promise 11. */
     private static void fill() {
-        ThinVolumes x = two(100);
+        Tape x = two(100);
         String ahead = Look.at(x);
         int[][] wrong = {{0, 0, 0, 1}, {0, 0, 65, 1}, {0, 37, 64, 1}, {0, -1, 5, 1}, {0, 100, 1, 1}, {2, 0, 1, 1},
             {-1, 0, 1, 1}, {0, 0, 1, -1}, {0, 0, 1, 1000000}, {0, Integer.MAX_VALUE, 5, 1}, {0, 5, Integer.MAX_VALUE, 1}};
@@ -140,7 +140,7 @@ public final class PiecesTest {
 
     /** Promises 15, 16, 51. */
     private static void stream() {
-        ThinVolumes x = two(100);
+        Tape x = two(100);
         check.due("none at first", x.is(10), 0);
         check.due("stream(0, 0)", x.stream(0, 0), -2);
         check.yes("none is TAKEN IN", x.receive(0));
@@ -195,7 +195,7 @@ public final class PiecesTest {
 
     /** Promises 19, 20, 50. */
     private static void stage() {
-        ThinVolumes x = two(100);
+        Tape x = two(100);
         check.due("none at first", x.staged(0, 0), -2);
         int[][] wrong = {{-1, 0}, {512, 0}, {0, -2}, {0, 1000000}, {Integer.MAX_VALUE, 0}};
         for (int[] w : wrong) check.due("stage " + w[0] + " " + w[1], x.stage(w[0], w[1]), -1);
@@ -245,7 +245,7 @@ public final class PiecesTest {
 
     /** Promise 17. */
     private static void move() {
-        ThinVolumes x = two(100);
+        Tape x = two(100);
         x.write(0, 10, 1);
         x.write(0, 12, 2);
         x.write(0, 51, 3);
@@ -275,7 +275,7 @@ public final class PiecesTest {
 
     /** Each address is moved before the next: its leaf is let go before the next one's is made. */
     private static void moveOneByOne() {
-        ThinVolumes x = two(512);
+        Tape x = two(512);
         x.like(1);
         for (int a = 0; a < 512; a += 8) x.write(0, a, 1);
         for (int a = 0; a < 512; a += 8) x.write(1, a, 1);
@@ -290,7 +290,7 @@ public final class PiecesTest {
 
     /** Nothing is done if a piece needs more parts than are free. */
     private static void noParts() {
-        ThinVolumes x = two(512);
+        Tape x = two(512);
         x.like(1);
         for (int a = 0; a < 512; a += 8) x.write(0, a, 1);
         for (int a = 0; a < 512; a += 8) x.write(1, a, 1);
@@ -323,7 +323,7 @@ public final class PiecesTest {
 
     /** Promise 18. */
     private static void swap() {
-        ThinVolumes x = new ThinVolumes();
+        Tape x = new Tape();
         x.make(100, 2);
         x.make(50, 5);
         x.write(0, 99, 1);

@@ -104,6 +104,15 @@ final class PoolEdges {
             x.graft(0, 0, 1, 1, 0, 1);
         }).does("fold(), TWIGS and TRUNKS alone", ThinVolumes::fold, 2);
 
+        Scene lesser = scene(x -> {
+            x.make(9, 9);
+            x.make(9, 9);
+            x.like(1);
+            x.write(1, 0, 1);
+            x.write(0, 0, 1);
+        });
+        edges.due("of(0, 4), the TRUNK of another VOLUME has a lesser number", lesser.does("fold()", ThinVolumes::fold, 3).of(0, 4), 0);
+
         edges.promise(22, "NONE with a WRONG COUNT.");
         spoilt.none("fold()", ThinVolumes::fold);
         scene(x -> {
@@ -217,6 +226,20 @@ final class PoolEdges {
         y = parts.does("close(), PARTS alone", ThinVolumes::close, 0);
         edges.due("of(1, 4)", y.of(1, 4), 0);
         edges.due("path(1, 0, 2)", y.path(1, 0, 2), 2);
+        edges.due("block(1, 0), BLOCK 0 in a PART with another number", y.block(1, 0), 0);
+        edges.due("wrong()", y.wrong(), -1);
+        // LEAF 2 of 0 .. 5 is let go: a TWIG has the number of a LEAF then, and a LEAF that of a TWIG.
+        Scene kinds = scene(x -> {
+            x.make(512, 512);
+            for (int address : new int[] {0, 8, 64}) x.write(0, address, address);
+            x.wipe(0, 0);
+        });
+        y = kinds.does("close(), of other kinds", ThinVolumes::close, 2);
+        int[] want = {2, 1, 0, 1, 0, -1};
+        for (int part = 0; part < 6; part++) edges.due("ofPart(" + part + ", 0)", y.ofPart(part, 0), want[part]);
+        edges.due("read(0, 8)", y.read(0, 8), 8);
+        edges.due("read(0, 64)", y.read(0, 64), 64);
+        edges.due("wrong()", y.wrong(), -1);
         spoilt.none("close(), a COUNT is WRONG", ThinVolumes::close);
     }
 

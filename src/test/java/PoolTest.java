@@ -4,7 +4,7 @@ public final class PoolTest {
 
     /** Promise 21. */
     private static void merge() {
-        ThinVolumes x = new ThinVolumes();
+        Tape x = new Tape();
         check.due("nothing to merge", x.merge(), 0);
         check.due("is a STEP", x.steps(), 1);
         x.make(100, 100);
@@ -26,7 +26,7 @@ public final class PoolTest {
 
     /** Promise 22. */
     private static void fold() {
-        ThinVolumes x = new ThinVolumes();
+        Tape x = new Tape();
         check.due("nothing to fold", x.fold(), 0);
         check.due("is a STEP", x.steps(), 1);
         x.make(512, 512);
@@ -51,7 +51,7 @@ public final class PoolTest {
 
     /** A leaf and a twig are never like, nor leaves with the same in other places. */
     private static void foldUnlike() {
-        ThinVolumes x = new ThinVolumes();
+        Tape x = new Tape();
         x.make(512, 512);
         x.like(1);
         x.write(0, 0, 1);
@@ -68,7 +68,7 @@ public final class PoolTest {
 
     /** Promise 24. */
     private static void like() {
-        ThinVolumes x = new ThinVolumes();
+        Tape x = new Tape();
         for (int like : new int[] {-1, 2, Integer.MAX_VALUE}) check.no("like " + like, x.like(like));
         check.due("at first", x.is(4), 0);
         check.yes("told as it is", x.like(0));
@@ -78,7 +78,7 @@ public final class PoolTest {
         x.make(9, 9);
         x.fill(0, 0, 9, 3);
         check.due("kept once", x.is(1), 1);
-        ThinVolumes y = new ThinVolumes();
+        Tape y = new Tape();
         y.make(9, 9);
         for (int a = 0; a < 3; a++) y.write(0, a, a);
         y.wipe(0, 1);
@@ -93,7 +93,7 @@ public final class PoolTest {
 
     /** Promises 25, 26, 37. */
     private static void spoil() {
-        ThinVolumes x = new ThinVolumes();
+        Tape x = new Tape();
         x.make(50, 50);
         x.fill(0, 0, 3, 4);
         int[][] wrong = {{3, 1}, {-1, 1}, {96, 1}, {0, 0}, {0, 1000}, {0, -1}};
@@ -128,7 +128,7 @@ public final class PoolTest {
 
     /** As long as one is WRONG, nothing else is done. */
     private static void whileWrong() {
-        ThinVolumes x = new ThinVolumes();
+        Tape x = new Tape();
         x.make(50, 50);
         x.make(50, 50);
         x.fill(0, 0, 3, 4);
@@ -176,7 +176,7 @@ public final class PoolTest {
 
     /** ALONE, frees, heaviest by COUNTS that are too low or too high. */
     private static void spoiltCounts() {
-        ThinVolumes x = new ThinVolumes();
+        Tape x = new Tape();
         x.make(50, 50);
         x.like(1);
         x.fill(0, 0, 3, 4);
@@ -194,7 +194,7 @@ public final class PoolTest {
 
     /** Promise 27. */
     private static void close() {
-        ThinVolumes x = new ThinVolumes();
+        Tape x = new Tape();
         check.due("nothing to do", x.close(), 0);
         check.due("is a STEP", x.steps(), 1);
         x.make(512, 512);
@@ -223,7 +223,7 @@ public final class PoolTest {
 
     /** Promises 28, 63. */
     private static void undo() {
-        ThinVolumes x = new ThinVolumes();
+        Tape x = new Tape();
         check.due("none", x.undo(), -1);
         x.make(100, 100);
         String first = Look.at(x);
@@ -254,7 +254,7 @@ public final class PoolTest {
 
     /** Every kind of step is taken back whole. */
     private static void undoEach() {
-        ThinVolumes x = new ThinVolumes();
+        Tape x = new Tape();
         x.make(100, 100);
         x.fill(0, 0, 10, 3);
         x.make(100, 100);
@@ -295,7 +295,7 @@ public final class PoolTest {
 
     /** Numbers that were let go and used again for others are as they were. */
     private static void undoReuse() {
-        ThinVolumes x = new ThinVolumes();
+        Tape x = new Tape();
         x.make(100, 100);
         x.write(0, 0, 1);
         x.write(0, 64, 1);
@@ -319,7 +319,7 @@ public final class PoolTest {
 
     /** Promises 61, 62: an image holds all but the stream and the stage, the steps that can be taken back too. */
     private static void image() {
-        ThinVolumes x = new ThinVolumes();
+        Tape x = new Tape();
         check.due("image", x.image(), 0);
         x.make(100, 100);
         x.write(0, 0, 1);

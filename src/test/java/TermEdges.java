@@ -417,7 +417,10 @@ final class TermEdges {
         edges.due("take(4, true), its number is used again", x.take(4, true), 0);
         edges.due("children(0)", x.children(0), 0);
         edges.due("of(0, 8)", x.of(0, 8), 4);
-        edges.due("prune(0), 0, 2 and 4", x.prune(0), 3);
+        edges.due("children(4), VOLUME 0 alone", x.children(4), 1);
+        x.free(4);
+        edges.due("of(0, 8), a child with a lesser number", x.of(0, 8), 3);
+        edges.due("prune(0), 0 and 2", x.prune(0), 2);
         edges.due("is(0)", x.is(0), 1);
     }
 

@@ -247,6 +247,16 @@ final class ToldEdges {
             last.none("place(" + part + ", 8)", x -> x.place(its, 8));
         }
         fullParts.gives("place(159, 0), the last PART", x -> x.place(159, 0), 0);
+        Scene first = scene(x -> {
+            x.make(9, 9);
+            x.make(9, 9);
+            x.write(0, 0, 1);
+            x.write(1, 0, 1);
+            x.free(0);
+            x.write(1, 8, 2);
+        });
+        first.gives("place(4, 1), PART 0 in a place", x -> x.place(4, 1), 0);
+        first.gives("path(1, 8, 2)", x -> x.path(1, 8, 2), 0);
 
         edges.promise(35, "NONE: nothing, and for others.");
         for (int place : new int[] {Integer.MIN_VALUE, -1, 8, 9, Integer.MAX_VALUE}) {

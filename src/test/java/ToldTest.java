@@ -7,8 +7,8 @@ public final class ToldTest {
      * Volume 1, taken from it, READ ONLY. Volume 2, taken from 1: BLOCK 4 (VALUE 12) at 0, nothing at 70.
      * Volume 3: empty.
      */
-    private static ThinVolumes sample() {
-        ThinVolumes x = new ThinVolumes();
+    private static Tape sample() {
+        Tape x = new Tape();
         x.make(100, 100);
         x.write(0, 0, 10);
         x.write(0, 1, 11);
@@ -24,7 +24,7 @@ public final class ToldTest {
 
     /** Promise 29. */
     private static void is() {
-        ThinVolumes x = sample();
+        Tape x = sample();
         x.reserve(0, 6);
         x.reserve(2, 2);
         x.reserve(3, 9);
@@ -38,7 +38,7 @@ public final class ToldTest {
 
     /** Promise 30. */
     private static void of() {
-        ThinVolumes x = sample();
+        Tape x = sample();
         x.reserve(2, 20);
         x.hold(1, true);
         int[][] want = {
@@ -60,7 +60,7 @@ public final class ToldTest {
 
     /** Promises 31, 32, 43, 55. */
     private static void addresses() {
-        ThinVolumes x = sample();
+        Tape x = sample();
         int[] at = {0, 1, 2, 9, 70, 99, 100, -1};
         int[] read = {12, 11, 0, 10, 0, 0, -1, -1};
         int[] block = {4, 1, -1, 2, -1, -1, -1, -1};
@@ -95,7 +95,7 @@ public final class ToldTest {
 
     /** Promises 33 to 36, 46 to 48. */
     private static void things() {
-        ThinVolumes x = sample();
+        Tape x = sample();
         int[][] blocks = {{10, 1, 1}, {11, 2, 2}, {10, 1, 1}, {0, 1, 1}, {12, 1, 1}};
         for (int b = 0; b < 5; b++) {
             for (int what = 0; what < 3; what++) check.due("ofBlock(" + b + ", " + what + ")", x.ofBlock(b, what), blocks[b][what]);
@@ -145,7 +145,7 @@ public final class ToldTest {
         check.due("of like ones the least", x.hottest(), 0);
         x.graft(0, 0, 0, 2, 2, 0);
         check.due("hottest", x.hottest(), 0);
-        check.due("of none", new ThinVolumes().hottest(), -1);
+        check.due("of none", new Tape().hottest(), -1);
         check.due("a LEAF with it twice is one", x.leaves(0), 2);
         check.due("places", x.ofBlock(0, 2), 3);
         check.due("place of one that was never used", x.place(159, 0), -1);
@@ -158,7 +158,7 @@ public final class ToldTest {
 
     /** Promises 38 to 40. */
     private static void differences() {
-        ThinVolumes x = sample();
+        Tape x = sample();
         check.due("differs", x.differs(0, 2, -1), 2);
         check.due("differs 0", x.differs(0, 2, 0), 0);
         check.due("differs 1", x.differs(2, 0, 1), 70);
@@ -192,7 +192,7 @@ public final class ToldTest {
 
     /** Promises 41, 42. */
     private static void weights() {
-        ThinVolumes x = sample();
+        Tape x = sample();
         int[][] want = {{0, 0}, {1, 0}, {2, 0}, {3, 2}, {4, 1}, {5, 1}, {7, 5}, {15, 5}, {8, 0}, {16, -1}, {-1, -1},
             {1 << 12, -1}, {Integer.MIN_VALUE, -1}, {Integer.MIN_VALUE | 1, -1}};
         for (int[] w : want) check.due("frees(" + w[0] + ")", x.frees(w[0]), w[1]);
@@ -213,7 +213,7 @@ public final class ToldTest {
 
     /** Promises 44, 45, 49. */
     private static void values() {
-        ThinVolumes x = sample();
+        Tape x = sample();
         check.due("find(10)", x.find(10), 0);
         check.due("find(12)", x.find(12), 1024);
         check.due("find(11): just behind another", x.find(11), 1);
@@ -243,7 +243,7 @@ public final class ToldTest {
 
     /** Promises 52, 53. */
     private static void families() {
-        ThinVolumes x = sample();
+        Tape x = sample();
         x.take(0, true);
         x.take(4, true);
         check.due("children(0)", x.children(0), 2 + 16);
@@ -261,7 +261,7 @@ public final class ToldTest {
 
     /** Promise 54. */
     private static void runs() {
-        ThinVolumes x = new ThinVolumes();
+        Tape x = new Tape();
         x.make(512, 512);
         x.fill(0, 3, 4, 1);
         x.fill(0, 20, 2, 1);
@@ -282,7 +282,7 @@ public final class ToldTest {
         x.fill(1, 0, 5, 1);
         check.due("the same BLOCK is not the next one", x.of(1, 11), 5);
         x.like(0);
-        ThinVolumes y = new ThinVolumes();
+        Tape y = new Tape();
         y.make(512, 512);
         y.fill(0, 60, 20, 5);
         check.due("across TWIGS", y.of(0, 11), 1);
@@ -291,7 +291,7 @@ public final class ToldTest {
 
     /** Promise 56. */
     private static void needs() {
-        ThinVolumes x = sample();
+        Tape x = sample();
         String ahead = Look.at(x);
         int steps = x.steps();
         int[][] want = {{0, 0, 5, 1, 3}, {2, 0, 5, 0, 0}, {2, 1, 5, 1, 0}, {2, 9, 5, 1, 1}, {2, 70, 5, 1, 2}, {3, 0, 5, 1, 3},
@@ -317,7 +317,7 @@ public final class ToldTest {
 
     /** Promises 57 to 60. */
     private static void numbers() {
-        ThinVolumes x = sample();
+        Tape x = sample();
         check.due("saved", x.saved(), Float.floatToIntBits(11f / 5f));
         check.due("full(0)", x.full(0), 40);
         check.due("full(2)", x.full(2), 30);
@@ -340,13 +340,13 @@ public final class ToldTest {
             check.due("mean " + v, x.mean(v), 0);
             check.due("digest " + v, x.digest(v), 0);
         }
-        check.due("saved without any", new ThinVolumes().saved(), 0);
+        check.due("saved without any", new Tape().saved(), 0);
     }
 
     /** The bits of many quotients, as the library has them. */
     private static void bits() {
         for (int blocks = 1; blocks <= 30; blocks++) {
-            ThinVolumes x = new ThinVolumes();
+            Tape x = new Tape();
             x.make(512, 512);
             for (int i = 0; i < blocks; i++) x.write(0, i, i * 33333 + blocks % 3);
             double sum = 0;
@@ -359,14 +359,14 @@ public final class ToldTest {
             check.due("saved by " + blocks, x.saved(), Float.floatToIntBits(12f * (blocks + 71) / blocks));
             check.due("full with " + blocks, x.full(0), (blocks + 71) * 1000 / 512);
         }
-        ThinVolumes y = new ThinVolumes();
+        Tape y = new Tape();
         y.make(512, 512);
         y.like(1);
         for (int a = 0; a < 512; a += 64) y.fill(0, a, 64, 0);
         check.due("mean 0", y.mean(0), 0);
         check.due("saved 512", y.saved(), Float.floatToIntBits(512f));
         check.due("full", y.full(0), 1000);
-        ThinVolumes z = new ThinVolumes();
+        Tape z = new Tape();
         z.make(512, 512);
         for (int value = 1; value < 1000000; value *= 2) {
             z.write(0, 0, value);

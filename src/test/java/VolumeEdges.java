@@ -57,8 +57,11 @@ final class VolumeEdges {
 
     private void make() {
         edges.promise(2, "MADE: its number.");
-        edges.due("the least SIZE and QUOTA", plain.does("make(1, 0)", x -> x.make(1, 0), 3).of(3, 0), 1);
-        ThinVolumes y = plain.does("make(512, 512)", x -> x.make(512, 512), 3);
+        ThinVolumes y = plain.does("make(1, 0), the least SIZE and QUOTA", x -> x.make(1, 0), 3);
+        edges.due("of(3, 0)", y.of(3, 0), 1);
+        edges.due("of(3, 1)", y.of(3, 1), 0);
+        edges.due("is(0)", y.is(0), 4);
+        y = plain.does("make(512, 512)", x -> x.make(512, 512), 3);
         int[] want = {512, 512, 0, 0, -1, 0, 0, 0, -1, 3, 0, 0};
         for (int what = 0; what < 12; what++) edges.due("of(3, " + what + ") then", y.of(3, what), want[what]);
         scene(x -> {
@@ -152,6 +155,17 @@ final class VolumeEdges {
         full.no("write(0, 96, 2), no BLOCK", x -> x.write(0, 96, 2));
         full.no("write(1, 0, 2), no BLOCK", x -> x.write(1, 0, 2));
         full.yes("write(0, 95, 2), its own BLOCK", x -> x.write(0, 95, 2));
+        Scene partFree = scene(x -> {
+            x.make(512, 512);
+            x.make(512, 512);
+            x.write(0, 0, 1);
+            x.fill(1, 0, 64, 1);
+            x.fill(1, 64, 31, 1);
+            x.free(0);
+            x.write(1, 95, 1);
+        });
+        edges.due("ofPart(0, 0)", partFree.anew().ofPart(0, 0), -1);
+        partFree.no("write(1, 96, 2), no BLOCK, PART 0 is free", x -> x.write(1, 96, 2));
         Scene alike = scene(x -> {
             Scenes.blocks(x, 96);
             x.like(1);
@@ -370,6 +384,10 @@ final class VolumeEdges {
             plain.no("reserve(0, " + blocks + ")", x -> x.reserve(0, blocks));
             scene(x -> x.make(1, 0)).no("reserve(0, " + blocks + "), all are free", x -> x.reserve(0, blocks));
         }
+        // All ADDRESSES are MAPPED, with one BLOCK: whatever is RESERVED, none need be free for it.
+        Scene mapped = scene(x -> Scenes.parts(x, 14));
+        mapped.yes("reserve(0, 96), all are MAPPED", x -> x.reserve(0, 96));
+        mapped.no("reserve(0, 97), all are MAPPED", x -> x.reserve(0, 97));
         for (int volume : Scenes.NO_VOLUMES) plain.no("reserve(" + volume + ", 1)", x -> x.reserve(volume, 1));
         plain.no("reserve(2, 1), READ ONLY", x -> x.reserve(2, 1));
         plain.no("reserve(2, 0), READ ONLY, as it is", x -> x.reserve(2, 0));
@@ -431,6 +449,16 @@ final class VolumeEdges {
         y = snapshots.does("prune(0)", x -> x.prune(0), 3);
         edges.due("3, that isn't READ ONLY, and 4, that has a HOLD, stay", y.children(0), 8 + 16);
         scene(x -> { }).does("prune(0) of none", x -> x.prune(0), 0);
+        Scene first = scene(x -> {
+            x.make(5, 5);
+            x.take(0, true);
+            x.take(0, true);
+            x.free(0);
+            x.take(1, true);
+        });
+        y = first.does("prune(1), VOLUME 0 was BORN latest", x -> x.prune(1), 2);
+        edges.due("of(0, 9)", y.of(0, 9), 3);
+        edges.due("is(0)", y.is(0), 1);
         scene(x -> {
             x.make(5, 5);
             for (int i = 1; i < 12; i++) x.take(0, true);

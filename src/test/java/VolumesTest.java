@@ -4,7 +4,7 @@ public final class VolumesTest {
 
     /** Promise 1. */
     private static void anew() {
-        ThinVolumes x = new ThinVolumes();
+        Tape x = new Tape();
         check.due("new is(0)", x.is(0), 0);
         check.due("new steps", x.steps(), 0);
         check.due("new back()", x.back(), 0);
@@ -16,7 +16,7 @@ public final class VolumesTest {
 
     /** Promise 2. */
     private static void make() {
-        ThinVolumes x = new ThinVolumes();
+        Tape x = new Tape();
         int[][] wrong = {{0, 1}, {513, 1}, {-1, 1}, {1, -1}, {1, 513}, {Integer.MIN_VALUE, 0}, {1, Integer.MAX_VALUE}};
         for (int[] w : wrong) check.due("make(" + w[0] + ", " + w[1] + ")", x.make(w[0], w[1]), -1);
         check.due("no step by a wrong make", x.steps(), 0);
@@ -34,7 +34,7 @@ public final class VolumesTest {
 
     /** Promise 3. */
     private static void take() {
-        ThinVolumes x = new ThinVolumes();
+        Tape x = new Tape();
         x.make(100, 30);
         x.write(0, 3, 9);
         x.reserve(0, 5);
@@ -59,7 +59,7 @@ public final class VolumesTest {
 
     /** Promise 4. */
     private static void write() {
-        ThinVolumes x = new ThinVolumes();
+        Tape x = new Tape();
         x.make(100, 3);
         int[][] wrong = {{1, 0, 0}, {-1, 0, 0}, {12, 0, 0}, {0, -1, 0}, {0, 100, 0}, {0, 0, -1}, {0, 0, 1000000}};
         for (int[] w : wrong) check.no("write " + w[0] + " " + w[1] + " " + w[2], x.write(w[0], w[1], w[2]));
@@ -82,7 +82,7 @@ public final class VolumesTest {
 
     /** Paths are split, alone ones are kept; LIKE 1 keeps like values once. */
     private static void writeShared() {
-        ThinVolumes x = new ThinVolumes();
+        Tape x = new Tape();
         x.make(512, 512);
         x.write(0, 0, 10);
         x.write(0, 1, 11);
@@ -116,7 +116,7 @@ public final class VolumesTest {
 
     /** Nothing is done if blocks or parts don't suffice. */
     private static void noRoom() {
-        ThinVolumes x = new ThinVolumes();
+        Tape x = new Tape();
         x.make(512, 512);
         check.yes("64 BLOCKS", x.fill(0, 0, 64, 1));
         check.yes("96 BLOCKS", x.fill(0, 64, 32, 1));
@@ -130,7 +130,7 @@ public final class VolumesTest {
         check.same("a split one", Look.at(x), full);
         x.like(1);
         check.yes("a like one needs none", x.write(1, 95, 1));
-        ThinVolumes y = new ThinVolumes();
+        Tape y = new Tape();
         y.make(512, 512);
         y.like(1);
         for (int a = 0; a < 512; a += 8) y.write(0, a, 1);
@@ -154,7 +154,7 @@ public final class VolumesTest {
 
     /** Promise 5. */
     private static void wipe() {
-        ThinVolumes x = new ThinVolumes();
+        Tape x = new Tape();
         x.make(512, 512);
         x.write(0, 5, 1);
         x.write(0, 6, 2);
@@ -180,7 +180,7 @@ public final class VolumesTest {
 
     /** Promise 6. */
     private static void bring() {
-        ThinVolumes x = new ThinVolumes();
+        Tape x = new Tape();
         x.make(100, 1);
         x.make(200, 50);
         x.fill(1, 0, 2, 7);
@@ -208,7 +208,7 @@ public final class VolumesTest {
 
     /** Promise 7. */
     private static void size() {
-        ThinVolumes x = new ThinVolumes();
+        Tape x = new Tape();
         x.make(100, 100);
         x.write(0, 10, 1);
         x.write(0, 50, 2);
@@ -240,7 +240,7 @@ public final class VolumesTest {
 
     /** A cut goes from the highest down: what it splits there is free again when the rest is cut. */
     private static void cutFromTheTop() {
-        ThinVolumes x = new ThinVolumes();
+        Tape x = new Tape();
         for (int v = 0; v < 4; v++) x.make(512, 512);
         x.like(1);
         for (int a : new int[] {0, 1, 64}) x.write(0, a, 1);
@@ -259,7 +259,7 @@ public final class VolumesTest {
 
     /** Promise 8. */
     private static void quota() {
-        ThinVolumes x = new ThinVolumes();
+        Tape x = new Tape();
         x.make(100, 10);
         x.fill(0, 0, 5, 1);
         int[][] wrong = {{0, 4}, {0, -1}, {0, 513}, {1, 5}, {-1, 5}, {12, 5}};
@@ -279,7 +279,7 @@ public final class VolumesTest {
 
     /** Promise 12. */
     private static void reserve() {
-        ThinVolumes x = new ThinVolumes();
+        Tape x = new Tape();
         x.make(512, 512);
         x.make(512, 512);
         int[][] wrong = {{0, -1}, {0, 97}, {2, 5}, {-1, 5}, {12, 5}};
@@ -304,7 +304,7 @@ public final class VolumesTest {
 
     /** What is wiped may be needed again: a shared block isn't free by it. */
     private static void reserveAndWipe() {
-        ThinVolumes x = new ThinVolumes();
+        Tape x = new Tape();
         x.make(512, 512);
         x.fill(0, 0, 2, 1);
         x.take(0, false);
@@ -324,7 +324,7 @@ public final class VolumesTest {
 
     /** Promise 13. */
     private static void hold() {
-        ThinVolumes x = new ThinVolumes();
+        Tape x = new Tape();
         x.make(5, 5);
         x.take(0, true);
         check.due("below 0", x.hold(0, false), -1);
@@ -338,7 +338,7 @@ public final class VolumesTest {
 
     /** Promise 14. */
     private static void prune() {
-        ThinVolumes x = new ThinVolumes();
+        Tape x = new Tape();
         x.make(50, 50);
         x.write(0, 0, 1);
         for (int v = 1; v <= 5; v++) x.take(0, v != 3);
@@ -362,7 +362,7 @@ public final class VolumesTest {
 
     /** Promise 23. */
     private static void free() {
-        ThinVolumes x = new ThinVolumes();
+        Tape x = new Tape();
         x.make(50, 50);
         x.fill(0, 0, 3, 1);
         x.take(0, false);
