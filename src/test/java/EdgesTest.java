@@ -13,6 +13,7 @@ public final class EdgesTest {
         new PoolEdges(edges).look();
         new ToldEdges(edges).look();
         new NumberEdges(edges).look();
+        new LastEdges(edges).look();
         edges.end();
         check.end();
     }

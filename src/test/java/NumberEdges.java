@@ -494,7 +494,7 @@ final class NumberEdges {
 
     private void full() {
         edges.promise(58, "Of 1000: USED of a VOLUME as a double, times 1000, divided by SIZE as a double, as an int (toward 0).");
-        int[][] want = {{1, 3, 333}, {2, 3, 666}, {3, 3, 1000}, {1, 1, 1000}, {1, 512, 1}, {0, 512, 0}, {0, 1, 0}, {1, 7, 142}, {6, 7, 857}, {64, 65, 984}};
+        int[][] want = {{1, 3, 333}, {2, 3, 666}, {3, 3, 1000}, {1, 1, 1000}, {1, 512, 1}, {0, 512, 0}, {0, 1, 0}, {1, 7, 142}, {6, 7, 857}, {36, 37, 972}, {64, 65, 984}};
         for (int[] w : want) {
             scene(x -> {
                 x.make(w[1], 512);
